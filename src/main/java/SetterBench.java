@@ -8,7 +8,7 @@ public final class SetterBench {
     private static final int PLACES = 8;
     private static final int MOST_MEMBERS = 40;
 
-    /* The sorts of things (2, INTS, is the one that nothing asks for); from STONES on they are trays of stones. */
+    /* The sorts of things, trays of stones from STONES on. INTS, 2, needs no name: its numbers are set as they are. */
     private static final int NOTHING = 0;
     private static final int LAMP = 1;
     private static final int LONGS = 3;
