@@ -20,6 +20,14 @@ final class Check {
         due(call, got ? 1L : 0L, want ? 1L : 0L);
     }
 
+    void due(String call, String got, String want) {
+        due(call, got.equals(want), true);
+        if (!got.equals(want) && wrong <= MOST_TOLD) {
+            System.out.println("  shown: " + got);
+            System.out.println("  due:   " + want);
+        }
+    }
+
     /** All members of the tray on p, and that there are no more. */
     void members(String when, SetterBench bench, int p, long... want) {
         due(when + ": thing(" + p + ", 1)", bench.thing(p, 1), want.length);
@@ -35,9 +43,14 @@ final class Check {
         }
     }
 
+    /** A check that asked nothing has shown nothing. */
+    boolean allDue() {
+        return wrong == 0 && asked != 0;
+    }
+
     void end() {
         System.out.println(asked + " answers, " + wrong + " not as due");
-        if (wrong != 0 || asked == 0) {
+        if (!allDue()) {
             System.exit(1);
         }
     }
